@@ -211,7 +211,7 @@ public final class WornNames {
             case HARD:
                 return 2 - town.now.dues[x];
             case NURSE:
-                return town.now.canCall(x, 0) ? Integer.bitCount(town.now.comers(x, 0)) : 0;
+                return Integer.bitCount(town.now.comers(x, 0));
             default:
                 return Integer.bitCount(town.now.named(town.now.names[x]) & ~(1 << x));
         }
@@ -288,10 +288,8 @@ public final class WornNames {
         if (!isPair(by, x)) {
             return BAD;
         }
-        if (!town.now.canCall(by, x)) {
-            return STATE;
-        }
-        return town.now.comers(by, x);
+        int bits = town.now.comers(by, x);
+        return bits == 0 ? STATE : bits;
     }
 
     /** Promise 21. */
@@ -967,8 +965,11 @@ public final class WornNames {
             return lives(x) && Name.size(names[x]) + letters <= MOST_LETTERS;
         }
 
-        /** Who COMES, if that CALL can be. */
+        /** Who COMES; nobody, if that CALL can't be: who is called COMES else. */
         int comers(int by, int x) {
+            if (!canCall(by, x)) {
+                return 0;
+            }
             int bits = kinds[by] == NURSE ? beginning(Name.start(names[x], 1)) : named(names[x]);
             return bits & ~(1 << by);
         }
@@ -996,13 +997,11 @@ public final class WornNames {
             return bits;
         }
 
-        /** A CALL that can be is made: who COMES. */
-        int callOut(int by, int x, int way) {
-            int bits = comers(by, x);
+        /** The NAMES of those who COME WEAR as they do when that one has called. */
+        void wearBy(int by, int bits, int way) {
             if (!is(by, MOTHER)) {
                 wear(bits, way);
             }
-            return bits;
         }
 
         private void wear(int bits, int way) {
@@ -1180,7 +1179,8 @@ public final class WornNames {
         }
 
         private int carryOutCall(int by, int x, int way) {
-            int bits = now.callOut(by, x, way);
+            int bits = now.comers(by, x);
+            now.wearBy(by, bits, way);
             called[by]++;
             for (int y = 0; y < now.size; y++) {
                 int one = bits >>> y & 1;
@@ -1265,8 +1265,8 @@ public final class WornNames {
         }
 
         /** Begins anew from PEOPLE as they are, who are copied: the copy. */
-        Folk from(Folk folk, int by) {
-            way = by;
+        Folk from(Folk folk, int wearing) {
+            way = wearing;
             mistakes = 0;
             fewest = NO_WAY;
             heldRows = 0;
@@ -1283,21 +1283,20 @@ public final class WornNames {
             for (int i = 0; i < calls.size; i++) {
                 int by = calls.places[i] / 100;
                 int x = calls.places[i] % 100;
-                if (!levels[0].canCall(by, x)) {
+                int bits = levels[0].comers(by, x);
+                if (bits == 0) {
                     return i;
                 }
-                mistakes += Integer.bitCount(levels[0].callOut(by, x, way)) - 1;
+                mistakes += Integer.bitCount(bits) - 1;
+                levels[0].wearBy(by, bits, way);
             }
             return calls.size;
         }
 
-        /** Who COMES by a CALL on a level (0: it can't be); the next level is as it is then. */
-        private int tryCall(int level, int by, int x) {
-            if (level + 1 >= levels.length || !levels[level].canCall(by, x)) {
-                return 0;
-            }
+        /** The next level is as it is when those have COME on a level, called by that one. */
+        private void goOn(int level, int by, int bits) {
             levels[level + 1].take(levels[level]);
-            return levels[level + 1].callOut(by, x, way);
+            levels[level + 1].wearBy(by, bits, way);
         }
 
         private void takeTrial(int size, int mistaken) {
@@ -1305,53 +1304,52 @@ public final class WornNames {
             System.arraycopy(trial, 0, found, 0, size);
         }
 
+        /** Only fewer mistakes than before are gone on with, so the first of the fewest stays. */
         private void seekOrder(Row calls, int level, int used, int mistaken) {
-            if (mistaken >= fewest || level > MOST_ORDERED) {
-                return;
-            }
-            if (level == calls.size) {
+            if (level >= calls.size || level >= MOST_ORDERED) {
                 takeTrial(level, mistaken);
                 return;
             }
             for (int p = 0; p < calls.size; p++) {
+                int by = calls.places[p] / 100;
                 boolean free = (used >>> p & 1) == 0;
-                int bits = free ? tryCall(level, calls.places[p] / 100, calls.places[p] % 100) : 0;
-                if (bits != 0) {
+                int bits = free ? levels[level].comers(by, calls.places[p] % 100) : 0;
+                int then = mistaken + Integer.bitCount(bits) - 1;
+                if (bits != 0 && then < fewest) {
                     trial[level] = p;
-                    seekOrder(calls, level + 1, used | 1 << p, mistaken + Integer.bitCount(bits) - 1);
+                    goOn(level, by, bits);
+                    seekOrder(calls, level + 1, used | 1 << p, then);
                 }
             }
         }
 
+        /** As above. */
         private void seekCallers(Row called, int level, int mistaken) {
-            if (mistaken >= fewest || level > MOST_CALLED) {
-                return;
-            }
-            if (level == called.size) {
+            if (level >= called.size || level >= MOST_CALLED) {
                 takeTrial(level, mistaken);
                 return;
             }
-            for (int by = 0; by < levels[0].size; by++) {
-                int bits = tryCall(level, by, called.places[level]);
-                if (bits != 0) {
+            for (int by = 0; by < levels[level].size; by++) {
+                int bits = levels[level].comers(by, called.places[level]);
+                int then = mistaken + Integer.bitCount(bits) - 1;
+                if (bits != 0 && then < fewest) {
                     trial[level] = by;
-                    seekCallers(called, level + 1, mistaken + Integer.bitCount(bits) - 1);
+                    goOn(level, by, bits);
+                    seekCallers(called, level + 1, then);
                 }
             }
         }
 
         private void seekCalled(int by, Row sets, int level) {
-            if (level > MOST_HELD) {
-                return;
-            }
-            if (level == sets.size) {
+            if (level >= sets.size || level >= MOST_HELD) {
                 holdTrial(level);
                 return;
             }
-            for (int x = 0; x < levels[0].size; x++) {
-                int bits = tryCall(level, by, x);
+            for (int x = 0; x < levels[level].size; x++) {
+                int bits = levels[level].comers(by, x);
                 if (bits != 0 && bits == sets.places[level]) {
                     trial[level] = x;
+                    goOn(level, by, bits);
                     seekCalled(by, sets, level + 1);
                 }
             }

@@ -146,6 +146,8 @@ public final class PromiseTest {
         dueAsked("mean(0)", w.mean(0), 1, HIGH);
         lay(0, LOW, LOW);
         dueAsked("mean(0)", w.mean(0), 1, LOW);
+        lay(0, 9);
+        dueAsked("mean(0) of one", w.mean(0), 1, 9);
         dueFinding("mean(5)", w.mean(5), 4);
         dueFinding("mean(4)", w.mean(4), 1);
         due("mean(6)", w.mean(6), BAD);
@@ -237,6 +239,7 @@ public final class PromiseTest {
         w.price(9);
         w.mend(2, 1, 'a');
         w.call(2, 0);
+        w.keep(0);
         w.keep(2);
         write(1, "1a 2");
         due("town(1)", w.town(1), STATE);
@@ -571,6 +574,8 @@ public final class PromiseTest {
         dueFinding("name(1) of seven", w.name(1), 5);
         write(1, "ab c");
         dueFinding("name(1) with a blank", w.name(1), 3);
+        write(1, "1ab");
+        dueFinding("name(1) with a sign", w.name(1), 3);
         dueFinding("name(2)", w.name(2), 1);
         due("name(4)", w.name(4), BAD);
         begin(28, "4ab");
@@ -599,7 +604,12 @@ public final class PromiseTest {
         for (int v : new int[] {707, 7, -1, 202, 100 * 7, LOW, HIGH, 10000}) {
             lay(0, 200, v);
             dueFinding("judge(0) with " + v, w.judge(0), 3);
+            lay(0, v, 200);
+            dueFinding("judge(0) with " + v + " ahead", w.judge(0), 3);
         }
+        lay(0, 200, 707);
+        lay(0, 200);
+        dueAsked("judge(0) of a row that was longer", w.judge(0), 1, 0);
         dueFinding("judge(1)", w.judge(1), 1);
         due("judge(6)", w.judge(6), BAD);
     }
@@ -663,6 +673,7 @@ public final class PromiseTest {
         dueAsked("spare(0)", w.spare(0), 2, 1);
         dueName(1, "ann");
         lay(0, 200);
+        w.person(0, 1);
         dueAsked("spare(0) as it is", w.spare(0), 0, 0);
         lay(0, 203);
         due("spare(0)", w.spare(0), NONE);
@@ -680,6 +691,13 @@ public final class PromiseTest {
         dueAsked("spare(0) as it is", w.spare(0), 0, 0);
         lay(0, 103);
         dueAsked("spare(0): the first of two", w.spare(0), 1, 2);
+        begin(33, "1b 1b 3z");
+        lay(0, 200);
+        dueAsked("spare(0): one 0 is the first", w.spare(0), 1, 0);
+        begin(33, "1a 1z");
+        w.call(1, 0);
+        lay(0, 100, 100, 100, 100, 100, 100);
+        dueAsked("spare(0): six for one without letters", w.spare(0), 6, 0);
     }
 
     private static void dueWhose(String name, int want, int asked) {
@@ -729,6 +747,8 @@ public final class PromiseTest {
         promise = 36;
         due("could(3, 1, 0)", w.could(3, 1, 0), STATE);
         due("could(3, 1, 4)", w.could(3, 1, 4), BAD);
+        due("could(7, 0, 0)", w.could(7, 0, 0), BAD);
+        due("could(2, 6, 0)", w.could(2, 6, 0), BAD);
         due("could(2, 1, -1)", w.could(2, 1, -1), BAD);
         dueFinding("could(2, 1, 0)", w.could(2, 1, 0), 1);
         dueFinding("could(2, 0, 3)", w.could(2, 0, 3), 5);
@@ -797,6 +817,8 @@ public final class PromiseTest {
         dueAsked("person(1, 4)", w.person(1, 4), 1, 2);
         due("undo(0)", w.undo(0), 4);
         for (int i = 0; i < 3; i++) w.call(0, 1);
+        due("days(3, 1)", w.days(3, 1), 1);
+        w.undo(3);
         due("days(58, 1)", w.days(58, 1), FULL);
         due("days(57, 1)", w.days(57, 1), 3);
         due("days(0, 1)", w.days(0, 1), BAD);
@@ -804,6 +826,10 @@ public final class PromiseTest {
         due("days(1, 0)", w.days(1, 0), BAD);
         due("days(1, HIGH)", w.days(1, HIGH), BAD);
         due("days(1, HIGH - 1)", w.days(1, HIGH - 1), 0);
+        begin(39, "1aaa 1bbb");
+        due("days(1, 1)", w.days(1, 1), 1);
+        w.undo(0);
+        due("days(60, 1)", w.days(60, 1), 6);
         begin(39, "1aaa");
         due("days(1, 1) of one", w.days(1, 1), STATE);
     }
@@ -874,6 +900,8 @@ public final class PromiseTest {
         due("findings(1)", w.findings(1), 1);
         due("findings(2)", w.findings(2), 2);
         due("findings(3)", w.findings(3), 0);
+        w.row(0, -1);
+        due("findings(5)", w.findings(5), 1);
         due("findings(0)", w.findings(0), BAD);
         due("findings(6)", w.findings(6), BAD);
         w.text(0, 0);
@@ -901,5 +929,11 @@ public final class PromiseTest {
         w.letter(0, 9);
         w.person(0, 1);
         due("digest() after what is told", w.digest(), h);
+        begin(46, "2a");
+        w.keep(0);
+        h = 17;
+        for (int v : new int[] {1, 0, 1, 1, 0, 1, 0, 1, 0, 0, 3, 1, 1, 0, 0, 0, 'a', 0, 0, -1, -1,
+            -1, -1, -1, -1, -1, -1, 2, '2', 'a', -1, -1, -1}) h = 31 * h + v;
+        due("digest() of a mother", w.digest(), h);
     }
 }
