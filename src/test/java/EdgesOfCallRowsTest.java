@@ -2,6 +2,9 @@ import java.util.Arrays;
 
 /** Edges of promises 30 to 33: ROWS of CALLS. */
 public final class EdgesOfCallRowsTest extends Edges {
+    /** One 1 is worn to xa, ay, xy by WAY 0, 1, 2: then one, two, none have that NAME, too. */
+    private static final String WAYS = "1c 1xay 1xa 1ay 1ay";
+
     public static void main(String[] args) {
         new EdgesOfCallRowsTest().run(30, 33);
     }
@@ -119,6 +122,13 @@ public final class EdgesOfCallRowsTest extends Edges {
         finds(NOTHING, () -> w.judge(5));
     }
 
+    void p30_aTornRowIsNothing() {
+        begin(TOWN);
+        lay(5, 200, 707);
+        w.tear(5);
+        finds(NOTHING, () -> w.judge(5));
+    }
+
     void p30_noSuchRowIsBad() {
         begin(TOWN);
         for (int r : NO_ROWS) refused(BAD, () -> w.judge(r));
@@ -129,6 +139,16 @@ public final class EdgesOfCallRowsTest extends Edges {
         callTimes(60, 0, 1);
         lay(0, 1, 1);
         dueAsked(w.judge(0), 2, 0);
+    }
+
+    void p30_byEveryWay() {
+        begin(WAYS);
+        lay(0, 1, 1);
+        int[] mistakes = {1, 2, 0};
+        for (int way = 0; way <= 2; way++) {
+            w.way(way);
+            dueAsked(w.judge(0), 2, mistakes[way]);
+        }
     }
 
     void p30_changesNothing() {
@@ -189,6 +209,16 @@ public final class EdgesOfCallRowsTest extends Edges {
     void p31_missingIsNothing() {
         begin(TOWN);
         w.row(1, 1);
+        finds(NOTHING, () -> w.order(0, 1));
+    }
+
+    void p31_nothingIsAheadOfSizeAndUnlike() {
+        begin(TOWN);
+        w.row(0, 7);
+        w.tear(0);
+        finds(NOTHING, () -> w.order(0, 1));
+        lay(0, 707);
+        w.tear(0);
         finds(NOTHING, () -> w.order(0, 1));
     }
 
@@ -269,6 +299,17 @@ public final class EdgesOfCallRowsTest extends Edges {
         dueRow(0, 1, 0);
     }
 
+    void p31_byEveryWay() {
+        begin(WAYS);
+        lay(0, 1, 1);
+        int[] mistakes = {1, 2, 0};
+        for (int way = 0; way <= 2; way++) {
+            w.way(way);
+            due(w.order(0, 1), mistakes[way]);
+            dueRow(1, 0, 1);
+        }
+    }
+
     void p31_isNeverFullAndCallsNobody() {
         begin("2a 1b");
         callTimes(60, 0, 1);
@@ -335,6 +376,16 @@ public final class EdgesOfCallRowsTest extends Edges {
     void p32_missingIsNothing() {
         begin(TOWN);
         w.row(1, 1);
+        finds(NOTHING, () -> w.callers(0, 1));
+    }
+
+    void p32_nothingIsAheadOfSizeAndUnlike() {
+        begin(TOWN);
+        w.row(0, 6);
+        w.tear(0);
+        finds(NOTHING, () -> w.callers(0, 1));
+        lay(0, 7);
+        w.tear(0);
         finds(NOTHING, () -> w.callers(0, 1));
     }
 
@@ -426,6 +477,18 @@ public final class EdgesOfCallRowsTest extends Edges {
         due(w.callers(0, 1), 0);
         lay(0, 0);
         finds(UNLIKE, () -> w.callers(0, 1));
+    }
+
+    void p32_byEveryWay() {
+        begin(WAYS);
+        lay(0, 1, 1);
+        int[] mistakes = {0, 1, 0};
+        int[] second = {2, 3, 0};
+        for (int way = 0; way <= 2; way++) {
+            w.way(way);
+            due(w.callers(0, 1), mistakes[way]);
+            dueRow(1, 0, second[way]);
+        }
     }
 
     void p32_isNeverFullAndCallsNobody() {
@@ -529,6 +592,13 @@ public final class EdgesOfCallRowsTest extends Edges {
         finds(NOTHING, () -> w.spare(5));
     }
 
+    void p33_aTornRowIsNothing() {
+        begin(TOWN);
+        lay(5, 200, 707);
+        w.tear(5);
+        finds(NOTHING, () -> w.spare(5));
+    }
+
     void p33_noSuchRowIsBad() {
         begin(TOWN);
         for (int r : NO_ROWS) refused(BAD, () -> w.spare(r));
@@ -539,6 +609,18 @@ public final class EdgesOfCallRowsTest extends Edges {
         dueAsked(w.spare(0), 0, 0);
         lay(0, 1);
         finds(UNLIKE, () -> w.spare(0));
+    }
+
+    void p33_byEveryWay() {
+        String[] towns = {"1c 1xay 1xa", "1c 1xay 1ay", "1c 1xay 1xy"};
+        for (int i = 0; i < towns.length; i++) {
+            begin(towns[i]);
+            lay(0, 1, 1);
+            for (int way = 0; way <= 2; way++) {
+                w.way(way);
+                dueAsked(w.spare(0), way == i ? 1 : 0, way == i ? 1 : 0);
+            }
+        }
     }
 
     void p33_mendsNothingAndIsNeverFull() {

@@ -720,6 +720,26 @@ public final class EdgesOfCallsTest extends Edges {
         dueName(0, "xy");
     }
 
+    void p23_otherCallsAndMendingsSinceAreGone() {
+        begin("1xay 3bb");
+        w.way(2);
+        w.call(1, 0);
+        w.mend(1, 0, 'e');
+        w.keep(0);
+        w.undo(0);
+        w.way(0);
+        w.price(7);
+        w.mend(1, 0, 'u');
+        w.call(1, 0);
+        w.keep(1);
+        due(w.on(0), 2);
+        dueName(0, "xye");
+        due(w.count(8), 3);
+        due(w.on(1), 2);
+        dueName(0, "xay");
+        due(w.count(8), 7);
+    }
+
     void p23_keptTownsStay() {
         begin(TOWN);
         w.keep(0);

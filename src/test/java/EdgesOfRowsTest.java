@@ -346,6 +346,15 @@ public final class EdgesOfRowsTest extends Edges {
         finds(NOTHING, () -> w.copy(1, 0, 1, 0, 0));
     }
 
+    void p06_aTornRowIsNothing() {
+        w.row(0, 2);
+        w.row(1, 2);
+        w.tear(1);
+        finds(NOTHING, () -> w.copy(0, 0, 1, 0, 1));
+        finds(NOTHING, () -> w.copy(1, 0, 0, 0, 1));
+        finds(NOTHING, () -> w.copy(1, 0, 0, 0, 3));
+    }
+
     void p06_sizeIsAheadOfNothing() {
         finds(SIZE, () -> w.copy(0, 0, 1, 0, -1));
     }
@@ -404,6 +413,15 @@ public final class EdgesOfRowsTest extends Edges {
     }
 
     void p07_missingIsNothing() {
+        finds(NOTHING, () -> w.mean(5));
+    }
+
+    void p07_aTornRowIsNothing() {
+        w.row(5, 2);
+        w.tear(5);
+        finds(NOTHING, () -> w.mean(5));
+        w.row(5, 0);
+        w.tear(5);
         finds(NOTHING, () -> w.mean(5));
     }
 

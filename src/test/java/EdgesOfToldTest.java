@@ -151,6 +151,17 @@ public final class EdgesOfToldTest extends Edges {
         due(w.digest(), before);
     }
 
+    void p39_byEveryWay() {
+        begin("1xay 1b");
+        String[] left = {"xa", "ay", "xy"};
+        for (int way = 0; way <= 2; way++) {
+            w.way(way);
+            due(w.days(1, 1), 1);
+            dueName(0, left[way]);
+            w.undo(0);
+        }
+    }
+
     void p39_askedStays() {
         begin(TOWN);
         w.person(4, 1);
@@ -280,6 +291,15 @@ public final class EdgesOfToldTest extends Edges {
         duePart(3, 4);
         w.call(0, 2);
         duePart(3, 4);
+    }
+
+    void p41_oneNoughtIsAPartToo() {
+        begin("1a 1a 2b");
+        w.call(2, 0);
+        duePart(1, 2);
+        w.undo(0);
+        w.call(2, 1);
+        duePart(1, 2);
     }
 
     void p41_theMostThatCanBe() {

@@ -186,6 +186,18 @@ public final class EdgesOfWearTest extends Edges {
         dueAsked(w.unlike(1), 0, 2);
     }
 
+    void p26_byEveryWay() {
+        String[] towns = {"1ax 1bx", "1xa 1xb", "1axy 1xyb"};
+        int[][] want = {{2, 1, 2}, {1, 2, 1}, {2, 2, 1}};
+        for (int i = 0; i < towns.length; i++) {
+            begin(towns[i]);
+            for (int way = 0; way <= 2; way++) {
+                w.way(way);
+                dueAsked(w.unlike(1), want[i][way], 0);
+            }
+        }
+    }
+
     void p26_changesNothing() {
         begin(TOWN);
         long before = w.digest();

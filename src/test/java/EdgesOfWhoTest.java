@@ -213,6 +213,16 @@ public final class EdgesOfWhoTest extends Edges {
         finds(NOTHING, () -> w.held(2, 5));
     }
 
+    void p35_nothingIsAheadOfSizeAndUnlike() {
+        begin(TOWN);
+        w.row(0, 5);
+        w.tear(0);
+        finds(NOTHING, () -> w.held(2, 0));
+        lay(0, -1);
+        w.tear(0);
+        finds(NOTHING, () -> w.held(2, 0));
+    }
+
     void p35_noSuchRowIsBad() {
         begin(TOWN);
         for (int r : NO_ROWS) refused(BAD, () -> w.held(2, r));
@@ -267,6 +277,25 @@ public final class EdgesOfWhoTest extends Edges {
         w.call(0, 1);
         lay(0, 2, 2);
         dueAsked(w.held(0, 0), 0, NONE);
+    }
+
+    void p35_oneNoughtIsCalled() {
+        begin("1a 1a 2b");
+        lay(0, 3);
+        dueAsked(w.held(2, 0), 2, 0);
+    }
+
+    void p35_byEveryWay() {
+        begin("1c 1xay 1xa 1ay 1ay");
+        int[] sets = {6, 26, 2};
+        int[] rows = {2, 3, 1};
+        for (int i = 0; i <= 2; i++) {
+            lay(0, 2, sets[i]);
+            for (int way = 0; way <= 2; way++) {
+                w.way(way);
+                dueAsked(w.held(0, 0), way == i ? rows[i] : 0, way == i ? 8 : NONE);
+            }
+        }
     }
 
     void p35_isNeverFullAndCallsNobody() {
@@ -362,6 +391,16 @@ public final class EdgesOfWhoTest extends Edges {
         finds(NOTHING, () -> w.could(2, 5, 0));
     }
 
+    void p36_nothingIsAheadOfSizeAndUnlike() {
+        begin(TOWN);
+        w.row(0, 5);
+        w.tear(0);
+        finds(NOTHING, () -> w.could(2, 0, 0));
+        lay(0, -1);
+        w.tear(0);
+        finds(NOTHING, () -> w.could(2, 0, 0));
+    }
+
     void p36_nobodyAndNoSuchRowAreBad() {
         begin(TOWN);
         lay(0, 1);
@@ -382,6 +421,18 @@ public final class EdgesOfWhoTest extends Edges {
         due(w.could(0, 0, 0), 6);
         lay(0, 6, 2);
         due(w.could(0, 0, 0), 0);
+    }
+
+    void p36_byEveryWay() {
+        begin("1c 1xay 1xa 1ay 1ay");
+        int[] sets = {6, 26, 2};
+        for (int i = 0; i <= 2; i++) {
+            lay(0, 2, sets[i]);
+            for (int way = 0; way <= 2; way++) {
+                w.way(way);
+                due(w.could(0, 0, 1), way == i ? sets[i] : 0);
+            }
+        }
     }
 
     void p36_askedStays() {
