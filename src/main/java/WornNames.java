@@ -1246,7 +1246,8 @@ public final class WornNames {
 
     /** CALLS tried aside, one behind the other: level n has the PEOPLE as they are after n of them. */
     private static final class Search {
-        static final int NO_WAY = Integer.MAX_VALUE;
+        /** More mistakes than six CALLS of seven PEOPLE can bring. */
+        static final int NO_WAY = 1000;
 
         final Folk[] levels = new Folk[MOST_ORDERED + 1];
         final int[] trial = new int[MOST_ORDERED];

@@ -215,6 +215,29 @@ public final class EdgesOfCallsTest extends Edges {
         dueName(1, "xy");
     }
 
+    void p17_sixLettersWithoutVowelsLoseTheLastOne() {
+        for (char c : "bcdfghjklmnpqrstvwxyz".toCharArray()) {
+            w = new WornNames();
+            w.way(2);
+            begin("1b 1" + c + "zyxwv");
+            w.call(0, 1);
+            dueName(1, c + "zyxw");
+        }
+    }
+
+    void p17_theFirstVowelGoesFromEachOfSixPlaces() {
+        for (int place = 0; place < 6; place++) {
+            for (String behind : new String[] {"xwvts", "uuuuu"}) {
+                w = new WornNames();
+                w.way(2);
+                String ahead = "dtbcf".substring(0, place);
+                begin("1b 1" + ahead + "o" + behind.substring(place));
+                w.call(0, 1);
+                dueName(1, ahead + behind.substring(place));
+            }
+        }
+    }
+
     void p17_vowelsAreFive() {
         for (char c = 'a'; c <= 'z'; c++) {
             w = new WornNames();

@@ -17,6 +17,8 @@ public final class LanguageTest {
     private static final String[] FORBIDDEN = {
         "throw", "try", "catch", "synchronized", "assert", "import", "package", "->", "::", "Exact", "Object", "hashCode",
         "toString", "static \\{", "Random", "Thread", "File"};
+    /** All of the library that the program uses by name; rule 4 allows more, but no field such as Integer.MAX_VALUE. */
+    private static final String LIBRARY = "Integer.bitCount\\(|Math.min\\(|System.arraycopy\\(";
     private static final int MOST_LINES = 60;
     private static final int MOST_PARAMETERS = 7;
 
@@ -25,6 +27,7 @@ public final class LanguageTest {
     public static void main(String[] args) throws Exception {
         String source = withoutComments(Files.readString(MAIN));
         lookForForbidden(source);
+        lookAtLibrary(source);
         lookAtLengths(source);
         lookAtFace();
         for (Class<?> inside : WornNames.class.getDeclaredClasses()) lookInside(inside);
@@ -47,6 +50,16 @@ public final class LanguageTest {
             String whole = word.matches("[a-z]+") ? "\\b" + word + "\\b" : word;
             if (Pattern.compile(whole).matcher(source).find()) blame("forbidden: " + word);
         }
+    }
+
+    private static void lookAtLibrary(String source) {
+        Matcher m = Pattern.compile("\\b(?:Integer|Long|Math|System|Arrays|Short|Byte|Character|Double|Float|Boolean|java)\\.\\w+\\(?").matcher(source);
+        int uses = 0;
+        while (m.find()) {
+            uses++;
+            if (!m.group().matches(LIBRARY)) blame("of the library: " + m.group());
+        }
+        if (uses == 0) blame("no use of the library was looked at");
     }
 
     private static void lookAtLengths(String source) {
