@@ -30,6 +30,12 @@ public final class EdgesOfCallRowsTest extends Edges {
         dueAsked(w.judge(0), 40, 40);
     }
 
+    void p30_theSeventhOneCallsAndIsCalled() {
+        begin(TOWN);
+        lay(0, 600, 604, 605, 506);
+        dueAsked(w.judge(0), 4, 2);
+    }
+
     void p30_theFirstCantBe() {
         begin("1a 1b 4c");
         for (int v : new int[] {2, 200}) {
@@ -310,6 +316,17 @@ public final class EdgesOfCallRowsTest extends Edges {
         }
     }
 
+    void p31_fromAsItIsNow() {
+        begin("1x 1ab 1abc");
+        lay(0, 1);
+        due(w.order(0, 1), 0);
+        w.call(0, 2);
+        due(w.order(0, 1), 1);
+        dueRow(1, 0);
+        callTimes(2, 0, 1);
+        refused(NONE, () -> w.order(0, 1));
+    }
+
     void p31_isNeverFullAndCallsNobody() {
         begin("2a 1b");
         callTimes(60, 0, 1);
@@ -336,6 +353,31 @@ public final class EdgesOfCallRowsTest extends Edges {
         layOften(0, 5, 1);
         due(w.callers(0, 1), 0);
         dueRow(1, 0, 0, 0, 0, 0);
+    }
+
+    void p32_theFifthHasItsOwn() {
+        begin("2a 1b");
+        lay(0, 1, 1, 1, 1, 0);
+        due(w.callers(0, 1), 0);
+        dueRow(1, 0, 0, 0, 0, 1);
+    }
+
+    void p32_theFifthCantBe() {
+        begin("1a 1bcde");
+        layOften(0, 5, 1);
+        refused(NONE, () -> w.callers(0, 1));
+        layOften(0, 4, 1);
+        due(w.callers(0, 1), 0);
+    }
+
+    void p32_fromAsItIsNow() {
+        begin("1x 1ab 1abc");
+        lay(0, 1);
+        due(w.callers(0, 1), 0);
+        dueRow(1, 0);
+        w.call(0, 2);
+        due(w.callers(0, 1), 0);
+        dueRow(1, 2);
     }
 
     void p32_moreThanFiveIsSize() {

@@ -426,6 +426,20 @@ public final class EdgesOfCallsTest extends Edges {
         due(w.call(0, 1), 2);
     }
 
+    void p19_mendingsOfSeveralStayTheirs() {
+        begin("3x 1a 1b 1c");
+        for (int i = 1; i <= 3; i++) due(w.mend(0, i, 'j' + i), 1);
+        due(w.mend(0, 0, 'n'), 1);
+        due(w.undo(3), 1);
+        dueName(0, "x");
+        dueName(1, "ak");
+        dueName(2, "bl");
+        dueName(3, "cm");
+        due(w.undo(2), 1);
+        dueName(2, "bl");
+        dueName(3, "c");
+    }
+
     void p19_theSixtiethAlone() {
         begin("2a 1b");
         callTimes(60, 0, 1);
@@ -798,6 +812,49 @@ public final class EdgesOfCallsTest extends Edges {
         dueName(0, "ann");
         due(w.undo(0), 1);
         dueName(0, "anna");
+    }
+
+    /** A TOWN with twelve CALLS and mendings, each unlike the one ahead, kept in place 1. */
+    private WornNames keptTwelve() {
+        w = new WornNames();
+        begin(TOWN);
+        w.call(2, 0);
+        w.call(2, 6);
+        w.mend(2, 4, 's');
+        w.way(1);
+        w.call(0, 4);
+        w.call(6, 2);
+        w.mend(2, 5, 'e');
+        w.call(1, 0);
+        w.way(2);
+        w.call(4, 5);
+        w.mend(2, 2, 'b');
+        w.call(5, 2);
+        w.price(7);
+        w.mend(2, 0, 'i');
+        w.way(0);
+        w.call(4, 2);
+        due(w.keep(1), 12);
+        return w;
+    }
+
+    void p23_twelveOverTwelveOthers() {
+        WornNames twin = keptTwelve();
+        keptTwelve();
+        w.undo(0);
+        callTimes(12, 1, 2);
+        due(w.on(1), 12);
+        dueName(0, "anni");
+        dueName(2, "ela");
+        dueName(4, "carlas");
+        dueName(5, "crae");
+        due(w.count(8), 12);
+        due(w.digest(), twin.digest());
+        for (int n = 11; n >= 0; n--) {
+            due(w.undo(n), 1);
+            twin.undo(n);
+            due(w.digest(), twin.digest());
+        }
     }
 
     void p23_withSixtyItIsFull() {

@@ -264,6 +264,17 @@ public final class EdgesOfRowsTest extends Edges {
         dueAsked(w.at(1, 39), 1, 5);
     }
 
+    void p06_theLastPlacesOfForty() {
+        w.row(0, 40);
+        w.row(1, 40);
+        w.lay(0, 39, 5);
+        w.lay(0, 20, 7);
+        due(w.copy(0, 39, 1, 38, 1), 1);
+        due(w.copy(0, 20, 1, 39, 1), 1);
+        dueAsked(w.at(1, 38), 1, 5);
+        dueAsked(w.at(1, 39), 1, 7);
+    }
+
     void p06_ontoItselfForward() {
         lay(0, 1, 2, 3, 4, 5);
         due(w.copy(0, 0, 0, 1, 4), 1);

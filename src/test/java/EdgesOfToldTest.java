@@ -562,6 +562,14 @@ public final class EdgesOfToldTest extends Edges {
             -1, -1, -1, -1, -1, -1, 6, '1', 'a', 'b', ' ', '1', 'b', -1, -1, -1));
     }
 
+    void p46_lettersAsTheyAreNow() {
+        begin("1abc 1x");
+        w.way(1);
+        w.call(1, 0);
+        due(w.digest(), mixed(17, 2, 1, 3, 0, 0, 0, 0, 1, 0, 1, 3, 0, 2, 1, 0, 0, 'b', 'c', 0, 0, 1, 0, 0, 1, 'x', 0,
+            -1, -1, -1, -1, -1, -1, -1, -1, -1, 7, '1', 'a', 'b', 'c', ' ', '1', 'x', -1, -1, -1));
+    }
+
     void p46_wayAndPriceAtTheirMost() {
         w.way(2);
         w.price(99);

@@ -245,6 +245,25 @@ public final class EdgesOfTownsTest extends Edges {
         due(w.call(0, 1), 2);
     }
 
+    void p11_peopleOfALargerTownBeforeAreGone() {
+        begin("1ab 1ab 2ac 6ad 2ae 4af 1ag");
+        w.unlike(0);
+        begin("1ab 1cd 6x");
+        due(w.count(0), 3);
+        due(w.count(2), 5);
+        due(w.count(3), 1);
+        due(w.count(4), 0);
+        dueAsked(w.unlike(0), 3, 0);
+        dueAsked(w.unlike(12), 0, 3);
+        due(w.first(), NONE);
+        due(w.comes(2, 0), 1);
+        due(w.alike(0), 1);
+        due(w.shortest(0), 1);
+        write(1, "a");
+        dueAsked(w.crowd(1), 1, 0);
+        dueAsked(w.whose(1), 1, 1);
+    }
+
     void p11_theTextMayChangeBehindIt() {
         begin("1anna");
         w.text(0, 0);
@@ -389,6 +408,27 @@ public final class EdgesOfTownsTest extends Edges {
     void p14_aMotherAlone() {
         begin("2a 1b 4a");
         due(w.mark(0, 1), 0);
+    }
+
+    void p14_namesAsTheyAreNow() {
+        begin("2ab 1abc 3x 4ab");
+        due(w.mark(0, 1), 0);
+        due(w.mark(3, 3), 1);
+        due(w.call(2, 1), 2);
+        due(w.mark(0, 1), 1);
+        due(w.mark(3, 3), 2);
+        due(w.call(2, 0), 3);
+        due(w.mark(0, 1), 1);
+        due(w.mark(3, 3), 0);
+        due(w.mend(2, 1, 'b'), 1);
+        due(w.mark(0, 1), 0);
+        due(w.mark(3, 3), 1);
+    }
+
+    void p14_aBeginningIsNotAlike() {
+        begin(TOWN);
+        due(w.mark(1, 1), 0);
+        due(w.mark(3, 3), 1);
     }
 
     void p14_aMotherAmongSixAlike() {

@@ -379,6 +379,25 @@ public final class EdgesOfWearTest extends Edges {
         refused(STATE, () -> w.best(2));
     }
 
+    void p29_othersAsTheyAreNow() {
+        begin("1b 3x 1bc");
+        dueAsked(w.best(0), 'a', 2);
+        w.call(1, 2);
+        dueAsked(w.best(0), 'a', 1);
+        w.mend(1, 2, 'a');
+        dueAsked(w.best(0), 'b', 2);
+    }
+
+    void p29_sixLettersByMendingAndFiveByWearing() {
+        begin("3abcde");
+        w.mend(0, 0, 'f');
+        refused(STATE, () -> w.best(0));
+        begin("1abcdef 1b");
+        refused(STATE, () -> w.best(0));
+        w.call(1, 0);
+        dueAsked(w.best(0), 'a', 6);
+    }
+
     void p29_withoutLetters() {
         begin("1b 1a");
         w.call(1, 0);

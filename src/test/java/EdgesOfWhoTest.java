@@ -415,6 +415,14 @@ public final class EdgesOfWhoTest extends Edges {
         due(w.could(0, 0, 1), 0);
     }
 
+    void p36_fromAsItIsNow() {
+        begin("1x 1ab 1abc");
+        lay(0, 6);
+        due(w.could(0, 0, 0), 0);
+        w.call(0, 2);
+        due(w.could(0, 0, 0), 6);
+    }
+
     void p36_onlyByRowsThatHoldToTheEnd() {
         begin("6x 1ab 1ac 1d");
         lay(0, 6, 8);
