@@ -1146,12 +1146,12 @@ public final class WornNames {
             for (int k = 0; k < KEPT; k++) {
                 kept[k].there = false;
             }
-            goBack(0);
+            startOver();
         }
 
-        /** All is as it was after the first n deeds, which are done again from the start. */
-        void goBack(int n) {
-            deeds.size = n;
+        /** Nothing has been done yet. */
+        private void startOver() {
+            deeds.size = 0;
             now.take(founders);
             paid = 0;
             for (int x = 0; x < MOST_PEOPLE; x++) {
@@ -1159,6 +1159,12 @@ public final class WornNames {
                 mistaken[x] = 0;
                 called[x] = 0;
             }
+        }
+
+        /** All is as it was after the first n deeds, which are done again from the start. */
+        void goBack(int n) {
+            startOver();
+            deeds.size = n;
             for (int i = 0; i < n; i++) {
                 if (deeds.letters[i] == 0) {
                     carryOutCall(deeds.doers[i], deeds.others[i], deeds.terms[i]);
